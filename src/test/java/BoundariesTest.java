@@ -1,6 +1,7 @@
 /**
- * The boundary cases that the document names, sentence by sentence: each test
- * here bears the sentence that it is for, with answers worked out by hand.
+ * The boundary cases of the document, with answers worked out by hand. Each
+ * test bears the sentence, or the part of one, that it is for, in the
+ * document's words or, where the case only follows from them, in short.
  */
 public final class BoundariesTest {
     private static final int NONE = SprinkleNets.NONE;
@@ -52,7 +53,7 @@ public final class BoundariesTest {
         promises1To4();
         promises5To9();
         promises10To14();
-        System.out.println(wrong == 0 ? tests + " boundary sentences hold" : wrong + " answers are not as due");
+        System.out.println(wrong == 0 ? tests + " boundary cases hold" : wrong + " answers are not as due");
         if (wrong != 0) {
             System.exit(1);
         }
