@@ -392,27 +392,60 @@ public final class PlainModelTest {
         return true;
     }
 
-    /** Every line of a plan, past walls that stand thick and thin. */
-    private static int wrongLines() {
+    /** A third of the lines of a plan, past walls that stand thick and thin. */
+    private static int wrongPastMany() {
         int wrong = 0;
         for (int walls = 0; walls <= 60; walls += 6) {
-            SprinkleNets nets = new SprinkleNets(16, 16);
             Model model = new Model(16, 16);
             for (int i = 0; i < walls; i++) {
-                int x = below(16);
-                int y = below(16);
-                nets.wall(x, y, true);
-                model.doWall(x, y, true);
+                model.doWall(below(16), below(16), true);
             }
-            for (int line = 0; line < 1 << 16; line += 3) {
-                int x = line & 15;
-                int y = line >> 4 & 15;
-                int u = line >> 8 & 15;
-                int v = line >> 12;
-                wrong += nets.seen(x, y, u, v) == model.sees(x, y, u, v) ? 0 : 1;
-            }
+            wrong += wrongLines(model, 3);
         }
         return wrong;
+    }
+
+    /** Every line of a plan past every wall that stands alone. */
+    private static int wrongPastOne() {
+        int wrong = 0;
+        for (int cell = 0; cell < 256; cell++) {
+            Model model = new Model(16, 16);
+            model.doWall(cell % 16, cell / 16, true);
+            wrong += wrongLines(model, 1);
+        }
+        return wrong;
+    }
+
+    /** Every apart-th line; an object is asked no more than it may be, then a new one. */
+    private static int wrongLines(Model model, int apart) {
+        int wrong = 0;
+        int asked = CALLS;
+        SprinkleNets nets = null;
+        for (int line = 0; line < 1 << 16; line += apart) {
+            if (asked == CALLS) {
+                nets = new SprinkleNets(16, 16);
+                asked = tellWalls(nets, model);
+            }
+            int x = line & 15;
+            int y = line >> 4 & 15;
+            int u = line >> 8 & 15;
+            int v = line >> 12;
+            wrong += nets.seen(x, y, u, v) == model.sees(x, y, u, v) ? 0 : 1;
+            asked++;
+        }
+        return wrong;
+    }
+
+    /** Tells all walls of the model: how many calls that took. */
+    private static int tellWalls(SprinkleNets nets, Model model) {
+        int told = 0;
+        for (int cell = 0; cell < 256; cell++) {
+            if (model.wall[cell % 16][cell / 16]) {
+                nets.wall(cell % 16, cell / 16, true);
+                told++;
+            }
+        }
+        return told;
     }
 
     public static void main(String[] args) {
@@ -420,7 +453,7 @@ public final class PlainModelTest {
         for (int run = 0; run < RUNS; run++) {
             bad += runIsGood(run) ? 0 : 1;
         }
-        int lines = wrongLines();
+        int lines = wrongPastMany() + wrongPastOne();
         System.out.println(bad + " of " + RUNS + " runs and " + lines + " lines are not as the model has them");
         if (bad + lines != 0) {
             System.exit(1);
